@@ -101,6 +101,12 @@ public final class ReceiveTest {
         answer("24 bytes", 1, Checks.row(184, 1, 149, 5));
         answer("16 bytes", 1, Checks.row(176, 1, 141, 5));
         answer("15 bytes", 1, Checks.row(63, 140, 5));
+        int[] puts = {3, 24, 5, 1, 1, 1, 1, 1, 5, 1, 1, 1, 1, 1, 5, 1, 1, 1, 1, 1, 5, 1, 1, 1, 1, 1, 4, 1, 1, 1, 1};
+        answer("a head of 255", 1, Checks.byId(Checks.id(Checks.BLOB, ABC), puts));
+        int[] base = Checks.withId(Checks.BLOB, 3, 0x12FF);
+        answer("an ID's byte of 255", 2, Checks.whole(Checks.BLOB, base), Checks.byId(0x12FF, 3, 1, 129, 0));
+        base = Checks.withId(Checks.BLOB, 3, 0xFF00);
+        answer("an ID's first byte of 255", 2, Checks.whole(Checks.BLOB, base), Checks.byId(0xFF00, 3, 1, 129, 0));
     }
 
     private static void backs() {
@@ -133,6 +139,11 @@ public final class ReceiveTest {
         faulty("a plain run cut short", 6, 80, 1, 1, 51, 2, 9);
         faulty("no second run", 6, 80, 1, 1, 51, 0, 9);
         faulty("a run of 130 in 129", 7, 80, 1, 1, 241, 8, 0, 0, 255, 9);
+        int abc = Checks.id(Checks.BLOB, ABC);
+        answer("a plain run of 128", -1000, Checks.byId(abc, Checks.times(128, 1)));
+        answer("a run of 130", -1000, Checks.join(Checks.head(7, 130), Checks.two(abc), Checks.row(255, 1)));
+        faulty("a plain run of 128 in 127", 7, Checks.pack(
+            Checks.join(Checks.head(7, 127), Checks.two(abc), Checks.row(127), Checks.times(128, 1))));
         answer("runs written otherwise", 1, Checks.row(54, 0, 7, 0, 7, 1, 7, 7, 0, 7, 0, 7));
         answer("a run in two", 1, Checks.row(54, 128, 7, 128, 7));
         PackStore x = new PackStore();
@@ -353,6 +364,11 @@ public final class ReceiveTest {
         int[] twin = Checks.whole(Checks.BLOB, 1, 0, 0);
         Checks.due("with the client's", Checks.receive(x, Checks.pack(Checks.whole(Checks.BLOB, 5), twin)), -1001);
         Checks.due("nothing is kept", x.count(1), 1);
+        Checks.due("with the client's, of another length", Checks.receive(x, Checks.pack(
+            Checks.whole(Checks.BLOB, Checks.withId(Checks.BLOB, 5, Checks.id(Checks.BLOB, 0, 2, 14))))), -1001);
+        int[] tree = Checks.withId(Checks.TREE, 3, Checks.id(Checks.BLOB, 0, 2, 14));
+        Checks.due("with the client's, of another kind",
+            Checks.receive(x, Checks.pack(Checks.whole(Checks.TREE, tree))), -1001);
         answer("in the pack", -1001, twin, Checks.whole(Checks.BLOB, 5), Checks.whole(Checks.BLOB, 0, 2, 14));
         PackStore y = new PackStore();
         Checks.store(y, Checks.BLOB, 0, 2, 14);

@@ -14,6 +14,8 @@ public final class ServeTest {
         wholeIfAsShort();
         baseByDifference();
         lowestPlaceAndSteps();
+        edgesOfCopies();
+        afterClosure();
         largest();
         Checks.end();
     }
@@ -223,6 +225,30 @@ public final class ServeTest {
             Checks.join(Checks.times(11, 77), Checks.row(1, 2, 3, 4, 5, 6, 7, 8, 9))), Checks.join(
                 Checks.row(60, 128, 0, 8, 1, 2, 3, 4, 5, 6, 7, 8, 9),
                 Checks.row(224, 1, 0, 13, 2, 12, 20, 11, 136, 77, 1, 137, 3)));
+    }
+
+    private static void edgesOfCopies() {
+        int[] ten = Checks.row(1, 2, 3, 4, 5, 6, 7, 8, 9, 10);
+        int[] base = Checks.join(ten, Checks.row(20, 21, 22));
+        Checks.due("a copy of three",
+            blobEntries(base, Checks.join(ten, Checks.row(50, 20, 21, 22))), Checks.join(
+                Checks.whole(Checks.BLOB, base), Checks.row(104, 0, 15, 7, 13, 14, 138, 0, 1, 50, 131, 10)));
+        int[] zeros = Checks.join(ten, Checks.row(0, 0));
+        Checks.due("no copy beyond the content", blobEntries(zeros, ten), Checks.join(
+            Checks.whole(Checks.BLOB, zeros), Checks.row(100, 0, 14, 3, 12, 10, 138, 0)));
+        Checks.due("no copy beyond the base", blobEntries(ten, zeros), Checks.join(
+            Checks.whole(Checks.BLOB, ten), Checks.row(103, 0, 12, 6, 10, 12, 138, 0, 2, 0, 0)));
+        int[] again = Checks.join(ten, Checks.row(1, 2, 3));
+        Checks.due("the first place, though another matches too", blobEntries(again, ten), Checks.join(
+            Checks.whole(Checks.BLOB, again), Checks.row(100, 0, 15, 3, 13, 10, 138, 0)));
+    }
+
+    private static void afterClosure() {
+        int[] ids = new int[6];
+        PackStore x = history(ids);
+        x.want(ids[4]);
+        Checks.due("a closure asked for in between", x.closure(0, ids[5]), 6);
+        Checks.due("does not become wanted", x.serve(), 3);
     }
 
     private static void largest() {

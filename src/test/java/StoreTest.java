@@ -119,6 +119,10 @@ public final class StoreTest {
         Checks.due("count after the same", x.count(0), 1);
         Checks.due("two contents of one ID", Checks.id(Checks.BLOB, 1, 0, 0), id);
         refused("another of that ID", x, Checks.BLOB, 1, 0, 0);
+        refused("a longer one of that ID", x, Checks.BLOB, Checks.withId(Checks.BLOB, 5, id));
+        int tree = Checks.store(x, Checks.TREE);
+        int[] twin = Checks.withId(Checks.BLOB, 3, tree);
+        refused("a blob of a tree's ID", x, Checks.BLOB, twin);
         Checks.due("the first stays", Checks.content(x, 0, id), 0, 2, 14);
     }
 

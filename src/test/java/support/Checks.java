@@ -68,6 +68,20 @@ final class Checks {
         return hash(join(row(kind, content.length), content));
     }
 
+    /** A content of n bytes, 3 or more, with which an object of that kind has that ID. */
+    static int[] withId(int kind, int n, int id) {
+        int[] content = new int[n];
+        for (int i = 0; i < 1 << 24; i++) {
+            content[n - 3] = i >> 16;
+            content[n - 2] = (i >> 8) & 255;
+            content[n - 1] = i & 255;
+            if (id(kind, content) == id) {
+                return content;
+            }
+        }
+        throw new IllegalStateException("no such content");
+    }
+
     static int[] part(int name, int id) {
         return join(row(name), two(id));
     }
