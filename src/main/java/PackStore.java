@@ -271,13 +271,12 @@ public final class PackStore {
             used = 0;
         }
 
-        boolean add(int b) {
-            if (used >= bytes.length) {
-                return false;
+        /** Adds a byte, for which the callers see to it that there is room. */
+        void add(int b) {
+            if (used < bytes.length) {
+                bytes[used] = b;
+                used++;
             }
-            bytes[used] = b;
-            used++;
-            return true;
         }
 
         void addTwo(int number) {
@@ -295,8 +294,8 @@ public final class PackStore {
             return true;
         }
 
-        boolean addAll(Row from) {
-            return addPart(from, 0, from.used);
+        void addAll(Row from) {
+            addPart(from, 0, from.used);
         }
 
         boolean replace(int p, int b) {

@@ -316,7 +316,8 @@ public final class ReceiveTest {
         Checks.due("only the client's, which does not fit", Checks.receive(x, Checks.pack(fits)), -1000);
         Checks.due("the pack's fits, and clashes",
             Checks.receive(x, Checks.pack(fits, Checks.whole(Checks.TREE, tree))), -1001);
-        int[] later = Checks.byId(Checks.id(Checks.TREE), 0, 6, 6, tree[0], tree[1], tree[2], tree[3], tree[4], tree[5]);
+        int[] later = Checks.byId(Checks.id(Checks.TREE),
+            0, 6, 6, tree[0], tree[1], tree[2], tree[3], tree[4], tree[5]);
         Checks.due("one that comes in a later round",
             Checks.receive(x, Checks.pack(fits, later, Checks.whole(Checks.TREE))), -1001);
         x.forget();
@@ -386,7 +387,8 @@ public final class ReceiveTest {
         pack[pack.length - 1] ^= 1;
         faulty("and a wrong hash", pack.length - 1, pack);
         PackStore x = fullBut(0);
-        Checks.due("not well formed, and too many", Checks.receive(x, Checks.pack(Checks.whole(Checks.BLOB, 99), bad)), -1001);
+        Checks.due("not well formed, and too many",
+            Checks.receive(x, Checks.pack(Checks.whole(Checks.BLOB, 99), bad)), -1001);
         Checks.due("no base, and too many", Checks.receive(x, Checks.pack(Checks.whole(Checks.BLOB, 99), lost)), -1000);
     }
 
