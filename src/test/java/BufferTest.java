@@ -10,7 +10,7 @@ public final class BufferTest {
     }
 
     private static void newObject() {
-        PackStore x = new PackStore();
+        Run x = new Run();
         Checks.due("new size()", x.size(), 0);
         Checks.due("new at(0)", x.at(0), -1);
         Checks.due("new count(0)", x.count(0), 0);
@@ -29,7 +29,7 @@ public final class BufferTest {
     }
 
     private static void putting() {
-        PackStore x = new PackStore();
+        Run x = new Run();
         Checks.due("put 4", x.put(0x81020384, 4), true);
         Checks.due("put 3", x.put(0x81F20384, 3), true);
         Checks.due("put 2", x.put(-1, 2), true);
@@ -49,7 +49,7 @@ public final class BufferTest {
     }
 
     private static void filling() {
-        PackStore x = new PackStore();
+        Run x = new Run();
         for (int i = 0; i < 124; i++) {
             Checks.due("put " + i, x.put(i, 4), true);
         }
@@ -71,7 +71,7 @@ public final class BufferTest {
     }
 
     private static void setting() {
-        PackStore x = new PackStore();
+        Run x = new Run();
         Checks.due("set in an empty buffer", x.set(0, 1), false);
         x.put(0x010203, 3);
         Checks.due("set(0, 255)", x.set(0, 255), true);
@@ -87,7 +87,7 @@ public final class BufferTest {
     }
 
     private static void cutting() {
-        PackStore x = new PackStore();
+        Run x = new Run();
         Checks.due("cut(0) of none", x.cut(0), true);
         Checks.due("cut(1) of none", x.cut(1), false);
         x.put(0x01020304, 4);

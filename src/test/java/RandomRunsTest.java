@@ -4,11 +4,12 @@ import java.util.Random;
 
 /** Runs of calls, always the same ones, whose answers and states must be those of PlainModel. */
 public final class RandomRunsTest {
-    private static final int RUNS = 2000;
-    private static final int STEPS = 60;
+    private static final int RUNS = 2500;
+    // No step makes more calls than this.
+    private static final int DEAREST_STEP = 160;
 
     private final Random random;
-    private final PackStore x = new PackStore();
+    private final Run x = new Run();
     private final PlainModel model = new PlainModel();
     private final List<Integer> ids = new ArrayList<>(List.of(-1, 0, 4467, 65535));
     private final String name;
@@ -22,7 +23,7 @@ public final class RandomRunsTest {
         for (int run = 0; run < RUNS; run++) {
             RandomRunsTest test = new RandomRunsTest(run);
             test.begin();
-            for (int i = 0; i < STEPS; i++) {
+            while (test.x.calls() + DEAREST_STEP < Run.MOST_CALLS) {
                 test.step();
             }
         }
@@ -70,8 +71,13 @@ public final class RandomRunsTest {
 
     private void fill(List<Integer> bytes) {
         Checks.due(name + "cut(0)", x.cut(0), model.cut(0));
-        for (int b : bytes) {
-            Checks.due(name + "put", x.put(b, 1), model.put(b, 1));
+        for (int p = 0; p < bytes.size(); p += 4) {
+            int n = Math.min(4, bytes.size() - p);
+            int word = random.nextInt();
+            for (int b : bytes.subList(p, p + n)) {
+                word = word << 8 | b;
+            }
+            Checks.due(name + "put", x.put(word, n), model.put(word, n));
         }
     }
 
@@ -242,20 +248,29 @@ public final class RandomRunsTest {
         }
     }
 
+    private void asked(String what, Run.Call question, long due) {
+        Checks.due(name + what, x.aside(question), due);
+    }
+
     private void compare() {
         Checks.due(name + "the buffer", Checks.buffer(x), model.buffer.stream().mapToInt(b -> b).toArray());
-        for (int r = -1; r < 5; r++) {
-            Checks.due(name + "ref", x.ref(r), model.ref(r));
+        for (int i = -1; i < 5; i++) {
+            int r = i;
+            asked("ref", y -> y.ref(r), model.ref(r));
         }
         for (int side = -1; side < 3; side++) {
-            Checks.due(name + "count", x.count(side), model.count(side));
+            int s = side;
+            asked("count", y -> y.count(s), model.count(s));
             for (int id : ids) {
-                Checks.due(name + "kind", x.kind(side, id), model.kind(side, id));
-                Checks.due(name + "length", x.length(side, id), model.length(side, id));
-                Checks.due(name + "closure", x.closure(side, id), model.closure(side, id));
-                int i = below(26) - 1;
-                Checks.due(name + "content", x.content(side, id, i), model.content(side, id, i));
+                compareObject(side, id, below(26) - 1);
             }
         }
+    }
+
+    private void compareObject(int side, int id, int i) {
+        asked("kind", y -> y.kind(side, id), model.kind(side, id));
+        asked("length", y -> y.length(side, id), model.length(side, id));
+        asked("closure", y -> y.closure(side, id), model.closure(side, id));
+        asked("content", y -> y.content(side, id, i), model.content(side, id, i));
     }
 }

@@ -29,7 +29,7 @@ public final class ReceiveTest {
     }
 
     private static void faulty(String what, int place, int... bytes) {
-        PackStore x = Checks.withClient(ABC);
+        Run x = Checks.withClient(ABC);
         Checks.due(what, Checks.receive(x, bytes), -1 - place);
         Checks.due(what + ": the buffer", Checks.buffer(x), bytes);
         Checks.due(what + ": count", x.count(1), 1);
@@ -37,7 +37,7 @@ public final class ReceiveTest {
 
     /** A pack with these entries, wrong or not, in a client that holds ABC. */
     private static void answer(String what, int due, int[]... entries) {
-        PackStore x = Checks.withClient(ABC);
+        Run x = Checks.withClient(ABC);
         int[] pack = Checks.pack(entries);
         Checks.due(what, Checks.receive(x, pack), due);
         Checks.due(what + ": the buffer", Checks.buffer(x), pack);
@@ -45,7 +45,7 @@ public final class ReceiveTest {
     }
 
     private static void keeping() {
-        PackStore x = new PackStore();
+        Run x = new Run();
         int blob = Checks.id(Checks.BLOB, 7);
         int[] tree = Checks.part(1, blob);
         int treeId = Checks.id(Checks.TREE, tree);
@@ -146,7 +146,7 @@ public final class ReceiveTest {
             Checks.join(Checks.head(7, 127), Checks.two(abc), Checks.row(127), Checks.times(128, 1))));
         answer("runs written otherwise", 1, Checks.row(54, 0, 7, 0, 7, 1, 7, 7, 0, 7, 0, 7));
         answer("a run in two", 1, Checks.row(54, 128, 7, 128, 7));
-        PackStore x = new PackStore();
+        Run x = new Run();
         Checks.due("runs one behind the other",
             Checks.receive(x, Checks.pack(Checks.row(54, 0, 1, 128, 2, 1, 3, 4))), 1);
         int[] content = {1, 2, 2, 2, 3, 4};
@@ -175,12 +175,12 @@ public final class ReceiveTest {
         for (int n = 0; n < pack.length; n++) {
             faulty("cut to " + n, n, Arrays.copyOf(pack, n));
         }
-        PackStore x = Checks.withClient(ABC);
+        Run x = Checks.withClient(ABC);
         Checks.due("not cut", Checks.receive(x, pack), 2);
     }
 
     private static void works(String what, int[] base, int[] content, int... difference) {
-        PackStore x = new PackStore();
+        Run x = new Run();
         int[] first = Checks.whole(Checks.BLOB, base);
         int due = Arrays.equals(base, content) ? 1 : 2;
         Checks.due(what, Checks.receive(x, Checks.pack(first, Checks.byBack(first.length, difference))), due);
@@ -208,7 +208,7 @@ public final class ReceiveTest {
             steps[i + 1] = 1;
         }
         works("24 copies", five, Checks.times(24, 2), steps);
-        PackStore x = new PackStore();
+        Run x = new Run();
         int[] tree = Checks.join(Checks.part(1, 7), Checks.part(2, 8));
         int[] first = Checks.whole(Checks.TREE, tree);
         Checks.due("of a tree",
@@ -261,7 +261,7 @@ public final class ReceiveTest {
             Checks.byBack(8, 1, 2, 129, 0, 129, 0), Checks.whole(Checks.BLOB, 1, 2, 3));
         answer("the first one missing", -1000, toD, toC, toB);
         answer("back to one that never comes", -1000, toB, Checks.byBack(toB.length, 4, 0));
-        PackStore x = new PackStore();
+        Run x = new Run();
         Checks.receive(x, Checks.pack(toD, toC, toB, Checks.whole(Checks.BLOB, 1, 2, 3)));
         Checks.due("the last one", Checks.content(x, 1, Checks.id(Checks.BLOB, 1, 2, 3, 4, 5, 6)), 1, 2, 3, 4, 5, 6);
         chain();
@@ -279,24 +279,24 @@ public final class ReceiveTest {
             entries[i] = Checks.byId(base, difference);
             content = Checks.join(content, Checks.row(30 + n));
         }
-        PackStore x = new PackStore();
+        Run x = new Run();
         Checks.due("a chain of 16", Checks.receive(x, Checks.pack(entries)), 16);
         Checks.due("its end", Checks.content(x, 1, Checks.id(Checks.BLOB, content)), content);
     }
 
     private static void basesById() {
-        PackStore x = Checks.withClient(ABC);
+        Run x = Checks.withClient(ABC);
         int base = Checks.id(Checks.BLOB, ABC);
         int[] pack = Checks.pack(Checks.byId(base, 3, 4, 131, 0, 1, 68));
         Checks.due("from the client's", Checks.receive(x, pack), 1);
         Checks.due("what came", Checks.content(x, 1, Checks.id(Checks.BLOB, 65, 66, 67, 68)), 65, 66, 67, 68);
         x.forget();
         Checks.due("that is gone", Checks.receive(x, pack), -1000);
-        PackStore y = new PackStore();
+        Run y = new Run();
         Checks.store(y, Checks.BLOB, ABC);
         Checks.due("the server's does not count", Checks.receive(y, pack), -1000);
         // Two contents of one ID: the pack's comes before the client's, and then they clash.
-        PackStore z = Checks.withClient(Checks.row(0, 2, 14));
+        Run z = Checks.withClient(Checks.row(0, 2, 14));
         int twin = Checks.id(Checks.BLOB, 1, 0, 0);
         Checks.due("by the client's twin",
             Checks.receive(z, Checks.pack(Checks.byId(twin, 3, 1, 129, 2))), 1);
@@ -311,7 +311,7 @@ public final class ReceiveTest {
         int[] blob = {9};
         int id = Checks.id(Checks.BLOB, blob);
         int[] tree = treeWithId(id);
-        PackStore x = Checks.withClient(blob);
+        Run x = Checks.withClient(blob);
         int[] fits = Checks.byId(id, 6, 0);
         Checks.due("only the client's, which does not fit", Checks.receive(x, Checks.pack(fits)), -1000);
         Checks.due("the pack's fits, and clashes",
@@ -361,7 +361,7 @@ public final class ReceiveTest {
     }
 
     private static void clashes() {
-        PackStore x = Checks.withClient(Checks.row(0, 2, 14));
+        Run x = Checks.withClient(Checks.row(0, 2, 14));
         int[] twin = Checks.whole(Checks.BLOB, 1, 0, 0);
         Checks.due("with the client's", Checks.receive(x, Checks.pack(Checks.whole(Checks.BLOB, 5), twin)), -1001);
         Checks.due("nothing is kept", x.count(1), 1);
@@ -371,7 +371,7 @@ public final class ReceiveTest {
         Checks.due("with the client's, of another kind",
             Checks.receive(x, Checks.pack(Checks.whole(Checks.TREE, tree))), -1001);
         answer("in the pack", -1001, twin, Checks.whole(Checks.BLOB, 5), Checks.whole(Checks.BLOB, 0, 2, 14));
-        PackStore y = new PackStore();
+        Run y = new Run();
         Checks.store(y, Checks.BLOB, 0, 2, 14);
         Checks.due("with the server's", Checks.receive(y, Checks.pack(twin)), 1);
         int id = Checks.id(Checks.BLOB, 1, 0, 0);
@@ -386,15 +386,15 @@ public final class ReceiveTest {
         int[] pack = Checks.pack(bad, lost);
         pack[pack.length - 1] ^= 1;
         faulty("and a wrong hash", pack.length - 1, pack);
-        PackStore x = fullBut(0);
+        Run x = fullBut(0);
         Checks.due("not well formed, and too many",
             Checks.receive(x, Checks.pack(Checks.whole(Checks.BLOB, 99), bad)), -1001);
         Checks.due("no base, and too many", Checks.receive(x, Checks.pack(Checks.whole(Checks.BLOB, 99), lost)), -1000);
     }
 
     /** A client that has room for so many more. */
-    private static PackStore fullBut(int room) {
-        PackStore x = new PackStore();
+    private static Run fullBut(int room) {
+        Run x = new Run();
         for (int i = 0; i < 24 - room; i++) {
             Checks.due("filling", Checks.receive(x, Checks.pack(Checks.whole(Checks.BLOB, i))), 1);
         }
@@ -402,7 +402,7 @@ public final class ReceiveTest {
     }
 
     private static void tooMany() {
-        PackStore x = fullBut(1);
+        Run x = fullBut(1);
         int[] one = Checks.whole(Checks.BLOB, 100);
         int[] two = Checks.whole(Checks.BLOB, 101);
         int[] old = Checks.whole(Checks.BLOB, 0);
@@ -418,7 +418,7 @@ public final class ReceiveTest {
     }
 
     private static void forgetting() {
-        PackStore x = Checks.withClient(ABC, Checks.row(1));
+        Run x = Checks.withClient(ABC, Checks.row(1));
         int id = Checks.store(x, Checks.BLOB, 4);
         x.put(77, 1);
         Checks.due("forget", x.forget(), 2);
@@ -431,7 +431,7 @@ public final class ReceiveTest {
     }
 
     private static void clientClosures() {
-        PackStore x = new PackStore();
+        Run x = new Run();
         int blob = Checks.id(Checks.BLOB, 5);
         int[] tree = Checks.part(1, blob);
         int treeId = Checks.id(Checks.TREE, tree);
@@ -458,7 +458,7 @@ public final class ReceiveTest {
     }
 
     private static void wrongKind(String what, int kind, int... content) {
-        PackStore x = new PackStore();
+        Run x = new Run();
         int[] tree = Checks.part(1, Checks.id(Checks.BLOB, 5));
         int[] first = Checks.commit(Checks.id(Checks.TREE, tree), 1);
         Checks.due(what + ": receive", Checks.receive(x, Checks.pack(Checks.whole(kind, content),
@@ -469,7 +469,7 @@ public final class ReceiveTest {
     private static void circles() {
         int[] tree = treeInItself();
         int id = Checks.id(Checks.TREE, tree);
-        PackStore x = new PackStore();
+        Run x = new Run();
         Checks.due("a tree in itself", Checks.receive(x,
             Checks.pack(Checks.whole(Checks.TREE, tree), Checks.whole(Checks.BLOB))), 2);
         Checks.due("its closure", x.closure(1, id), 2);

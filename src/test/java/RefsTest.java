@@ -8,7 +8,7 @@ public final class RefsTest {
     }
 
     private static void pointing() {
-        PackStore x = new PackStore();
+        Run x = new Run();
         int blob = Checks.store(x, Checks.BLOB, 1);
         int tree = Checks.store(x, Checks.TREE);
         int first = Checks.store(x, Checks.COMMIT, Checks.commit(tree, 1));
@@ -35,7 +35,7 @@ public final class RefsTest {
     }
 
     private static void wanting() {
-        PackStore x = new PackStore();
+        Run x = new Run();
         int tree = Checks.store(x, Checks.TREE);
         int first = Checks.store(x, Checks.COMMIT, Checks.commit(tree, 1));
         int second = Checks.store(x, Checks.COMMIT, Checks.commit(tree, 2));
@@ -60,7 +60,7 @@ public final class RefsTest {
     }
 
     private static void having() {
-        PackStore x = new PackStore();
+        Run x = new Run();
         int[] ids = {-1, 0, Integer.MIN_VALUE, Integer.MAX_VALUE, 70000, 5, 6};
         for (int id : ids) {
             Checks.due("have " + id, x.have(id), true);

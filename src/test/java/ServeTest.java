@@ -22,7 +22,7 @@ public final class ServeTest {
 
     /** Serves one commit of a tree of these blobs; answers the pack's bytes from the first blob's entry to the hash. */
     private static int[] blobEntries(int[]... blobs) {
-        PackStore x = new PackStore();
+        Run x = new Run();
         int[] parts = new int[0];
         for (int i = 0; i < blobs.length; i++) {
             parts = Checks.join(parts, Checks.part(i * 9, Checks.store(x, Checks.BLOB, blobs[i])));
@@ -44,7 +44,7 @@ public final class ServeTest {
     }
 
     private static void wholePack() {
-        PackStore x = new PackStore();
+        Run x = new Run();
         int blob = Checks.store(x, Checks.BLOB, 1, 2);
         int tree = Checks.store(x, Checks.TREE, Checks.part(5, blob));
         int commit = Checks.store(x, Checks.COMMIT, Checks.commit(tree, 9));
@@ -61,8 +61,8 @@ public final class ServeTest {
         Checks.due("the ref stays", x.ref(1), commit);
     }
 
-    private static PackStore history(int[] ids) {
-        PackStore x = new PackStore();
+    private static Run history(int[] ids) {
+        Run x = new Run();
         ids[0] = Checks.store(x, Checks.BLOB, 1);
         ids[1] = Checks.store(x, Checks.BLOB, 2);
         ids[2] = Checks.store(x, Checks.TREE, Checks.part(1, ids[0]));
@@ -77,7 +77,7 @@ public final class ServeTest {
 
     private static void served(String what, int due, int wanted, int... had) {
         int[] ids = new int[6];
-        PackStore x = history(ids);
+        Run x = history(ids);
         x.want(ids[wanted]);
         for (int i : had) {
             x.have(ids[i]);
@@ -95,7 +95,7 @@ public final class ServeTest {
         served("less the whole tree", 2, 5, 3);
         served("less more than is wanted", 0, 4, 5);
         int[] ids = new int[6];
-        PackStore x = history(ids);
+        Run x = history(ids);
         x.want(ids[4]);
         x.want(ids[5]);
         x.have(65535);
@@ -104,7 +104,7 @@ public final class ServeTest {
 
     private static void nothingDue() {
         int[] ids = new int[6];
-        PackStore x = history(ids);
+        Run x = history(ids);
         x.put(7, 1);
         x.have(ids[5]);
         Checks.due("refused", x.serve(), -1);
@@ -118,7 +118,7 @@ public final class ServeTest {
 
     private static void emptied() {
         int[] ids = new int[6];
-        PackStore x = history(ids);
+        Run x = history(ids);
         x.want(ids[5]);
         x.have(ids[4]);
         Checks.due("serve", x.serve(), 3);
@@ -128,7 +128,7 @@ public final class ServeTest {
     }
 
     private static void order() {
-        PackStore x = new PackStore();
+        Run x = new Run();
         int empty = Checks.store(x, Checks.TREE);
         int late = Checks.store(x, Checks.BLOB, 1);
         int other = Checks.store(x, Checks.COMMIT, Checks.commit(empty, 1));
@@ -245,14 +245,14 @@ public final class ServeTest {
 
     private static void afterClosure() {
         int[] ids = new int[6];
-        PackStore x = history(ids);
+        Run x = history(ids);
         x.want(ids[4]);
         Checks.due("a closure asked for in between", x.closure(0, ids[5]), 6);
         Checks.due("does not become wanted", x.serve(), 3);
     }
 
     private static void largest() {
-        PackStore x = new PackStore();
+        Run x = new Run();
         int[] ids = new int[14];
         int tree = Checks.store(x, Checks.TREE);
         for (int i = 0; i < 8; i++) {

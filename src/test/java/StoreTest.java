@@ -15,7 +15,7 @@ public final class StoreTest {
         Checks.end();
     }
 
-    private static void refused(String what, PackStore x, int kind, int... content) {
+    private static void refused(String what, Run x, int kind, int... content) {
         int before = x.count(0);
         Checks.due(what, Checks.store(x, kind, content), -1);
         Checks.due(what + ": the buffer", Checks.buffer(x), content);
@@ -23,7 +23,7 @@ public final class StoreTest {
     }
 
     private static void storing() {
-        PackStore x = new PackStore();
+        Run x = new Run();
         Checks.due("the empty blob", x.store(3), 4467);
         Checks.due("the empty tree", x.store(2), Checks.id(Checks.TREE));
         int id = Checks.store(x, Checks.BLOB, 0, 255, 128);
@@ -35,7 +35,7 @@ public final class StoreTest {
     }
 
     private static void wrongKindsAndSizes() {
-        PackStore x = new PackStore();
+        Run x = new Run();
         int[] kinds = {0, 4, -1, 6, 7, Integer.MIN_VALUE, Integer.MAX_VALUE};
         for (int kind : kinds) {
             refused("store of kind " + kind, x, kind, 1);
@@ -47,7 +47,7 @@ public final class StoreTest {
     }
 
     private static void trees() {
-        PackStore x = new PackStore();
+        Run x = new Run();
         int blob = Checks.store(x, Checks.BLOB);
         for (int n = 1; n < 24; n++) {
             if (n % 3 != 0) {
@@ -70,7 +70,7 @@ public final class StoreTest {
     }
 
     private static void treeNames() {
-        PackStore x = new PackStore();
+        Run x = new Run();
         int blob = Checks.store(x, Checks.BLOB, 1);
         int tree = Checks.store(x, Checks.TREE);
         int commit = Checks.store(x, Checks.COMMIT, Checks.commit(tree, 0));
@@ -84,7 +84,7 @@ public final class StoreTest {
     }
 
     private static void commits() {
-        PackStore x = new PackStore();
+        Run x = new Run();
         int blob = Checks.store(x, Checks.BLOB, 1);
         int tree = Checks.store(x, Checks.TREE);
         int[] lengths = {0, 1, 2, 4, 6, 8, 9, 24};
@@ -112,7 +112,7 @@ public final class StoreTest {
     }
 
     private static void sameAndClashing() {
-        PackStore x = new PackStore();
+        Run x = new Run();
         int id = Checks.store(x, Checks.BLOB, 0, 2, 14);
         Checks.due("the same again", Checks.store(x, Checks.BLOB, 0, 2, 14), id);
         Checks.due("size after the same", x.size(), 0);
@@ -127,7 +127,7 @@ public final class StoreTest {
     }
 
     private static void full() {
-        PackStore x = new PackStore();
+        Run x = new Run();
         for (int i = 0; i < 16; i++) {
             Checks.due("blob " + i, Checks.store(x, Checks.BLOB, i), Checks.id(Checks.BLOB, i));
         }
@@ -138,7 +138,7 @@ public final class StoreTest {
     }
 
     private static void asking() {
-        PackStore x = new PackStore();
+        Run x = new Run();
         int blob = Checks.store(x, Checks.BLOB, 9, 8);
         int tree = Checks.store(x, Checks.TREE, Checks.part(5, blob));
         int commit = Checks.store(x, Checks.COMMIT, Checks.commit(tree, 0));
@@ -168,7 +168,7 @@ public final class StoreTest {
     }
 
     private static void closures() {
-        PackStore x = new PackStore();
+        Run x = new Run();
         int blob = Checks.store(x, Checks.BLOB, 9);
         int inner = Checks.store(x, Checks.TREE, Checks.part(5, blob));
         int outer = Checks.store(x, Checks.TREE, Checks.join(Checks.part(1, blob), Checks.part(2, inner)));

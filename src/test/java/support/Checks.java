@@ -31,6 +31,17 @@ final class Checks {
         }
     }
 
+    static void due(String what, List<String> got, List<String> want) {
+        if (!got.equals(want)) {
+            wrong++;
+            List<String> gone = new ArrayList<>(want);
+            gone.removeAll(got);
+            List<String> come = new ArrayList<>(got);
+            come.removeAll(want);
+            System.out.println(what + " has " + come + ", due is " + gone);
+        }
+    }
+
     static void end() {
         System.out.println(wrong == 0 ? "all answers are as due" : wrong + " answers are not as due");
         if (wrong != 0) {
@@ -65,7 +76,9 @@ final class Checks {
     }
 
     static int id(int kind, int... content) {
-        return hash(join(row(kind, content.length), content));
+        int id = hash(join(row(kind, content.length), content));
+        Looks.know(id);
+        return id;
     }
 
     /** A content of n bytes, 3 or more, with which an object of that kind has that ID. */
@@ -75,7 +88,7 @@ final class Checks {
             content[n - 3] = i >> 16;
             content[n - 2] = (i >> 8) & 255;
             content[n - 1] = i & 255;
-            if (id(kind, content) == id) {
+            if (hash(join(row(kind, n), content)) == id) {
                 return content;
             }
         }
@@ -95,35 +108,47 @@ final class Checks {
         return join(content, row(last));
     }
 
-    static void fill(PackStore x, int... bytes) {
+    static void fill(Run x, int... bytes) {
         x.cut(0);
-        for (int b : bytes) {
-            x.put(b, 1);
+        add(x, bytes);
+    }
+
+    /** Puts the bytes, as many at once as can be, because the calls on an object are counted. */
+    static void add(Run x, int... bytes) {
+        for (int p = 0; p < bytes.length; p += 4) {
+            int n = Math.min(4, bytes.length - p);
+            int word = 0;
+            for (int i = 0; i < n; i++) {
+                word = word << 8 | bytes[p + i];
+            }
+            due("put", x.put(word, n), true);
         }
     }
 
-    static int store(PackStore x, int kind, int... content) {
+    static int store(Run x, int kind, int... content) {
         fill(x, content);
         return x.store(kind);
     }
 
-    static int[] buffer(PackStore x) {
-        int[] bytes = new int[x.size()];
+    static int[] buffer(Run x) {
+        int[] bytes = new int[(int) x.aside(PackStore::size)];
         for (int p = 0; p < bytes.length; p++) {
-            bytes[p] = x.at(p);
+            int place = p;
+            bytes[p] = (int) x.aside(y -> y.at(place));
         }
         return bytes;
     }
 
-    static int[] content(PackStore x, int side, int id) {
-        int[] bytes = new int[Math.max(0, x.length(side, id))];
+    static int[] content(Run x, int side, int id) {
+        int[] bytes = new int[Math.max(0, (int) x.aside(y -> y.length(side, id)))];
         for (int i = 0; i < bytes.length; i++) {
-            bytes[i] = x.content(side, id, i);
+            int place = i;
+            bytes[i] = (int) x.aside(y -> y.content(side, id, place));
         }
         return bytes;
     }
 
-    static int receive(PackStore x, int... pack) {
+    static int receive(Run x, int... pack) {
         fill(x, pack);
         return x.receive();
     }
@@ -146,6 +171,7 @@ final class Checks {
     }
 
     static int[] whole(int kind, int... content) {
+        id(kind, content);
         return join(head(kind, content.length), plain(content));
     }
 
@@ -157,13 +183,66 @@ final class Checks {
         return join(head(7, difference.length), two(id), plain(difference));
     }
 
-    static PackStore withClient(int[]... blobs) {
-        PackStore x = new PackStore();
+    static Run withClient(int[]... blobs) {
+        Run x = new Run();
         List<int[]> entries = new ArrayList<>();
         for (int[] blob : blobs) {
             entries.add(whole(BLOB, blob));
         }
         due("receive of blobs", receive(x, pack(entries.toArray(new int[0][]))), blobs.length);
         return x;
+    }
+
+    /** An object in the midst of its work: sides, buffer, refs, wants and haves all hold something. */
+    static Run busy() {
+        Run x = new Run();
+        int blob = store(x, BLOB, 1, 2, 3);
+        int tree = store(x, TREE, part(5, blob));
+        int first = store(x, COMMIT, commit(tree, 1));
+        int second = store(x, COMMIT, commit(tree, 2, first));
+        due("point 0", x.point(0, first), true);
+        due("point 2", x.point(2, second), true);
+        due("want", x.want(first), true);
+        due("serve", x.serve(), 3);
+        due("receive", x.receive(), 3);
+        due("receive", receive(x, pack(whole(BLOB, 65, 66, 67))), 1);
+        due("want", x.want(second), true);
+        due("have a tree", x.have(tree), true);
+        due("have what nobody holds", x.have(70000), true);
+        fill(x, 9, 8, 7);
+        return x;
+    }
+
+    /** Bytes that rise from a first one on, so that no two are alike. */
+    static int[] rising(int first, int n) {
+        int[] row = new int[n];
+        for (int i = 0; i < n; i++) {
+            row[i] = first + i;
+        }
+        return row;
+    }
+
+    /** A buffer of n bytes. */
+    static Run filled(int n) {
+        Run x = new Run();
+        for (int p = 0; p < n; p += 4) {
+            due("put", x.put(0x01020304 * (p % 50), Math.min(4, n - p)), true);
+        }
+        return x;
+    }
+
+    /** Stores a blob, a tree of it and a commit of that which has the given ID. */
+    static void storeCommitOfId(Run x, int id) {
+        for (int i = 0; i < 1 << 24; i++) {
+            int[] tree = join(row(i & 255), two(hash(BLOB, 1, i >> 16)));
+            int[] content = commit(hash(join(row(TREE, 3), tree)), (i >> 8) & 255);
+            if (hash(join(row(COMMIT, 3), content)) == id) {
+                store(x, BLOB, i >> 16);
+                store(x, TREE, tree);
+                due("store of a commit of the ID " + id, store(x, COMMIT, content), id);
+                return;
+            }
+        }
+        throw new IllegalStateException("no such commit");
     }
 }
