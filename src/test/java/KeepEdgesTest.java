@@ -341,6 +341,10 @@ public final class KeepEdgesTest {
             refuses("one before the other", NOT_SOUND, other, one);
             refuses("far from one another", NOT_SOUND, one, Checks.whole(BLOB, 5), Checks.whole(BLOB, 6), other);
         }
+        int[] shorter = Checks.whole(BLOB, 7);
+        int[] goesOn = Checks.whole(BLOB, Checks.longerTwin(7));
+        refuses("one that goes on behind the other", NOT_SOUND, shorter, goesOn);
+        refuses("one that ends before the other", NOT_SOUND, goesOn, shorter);
         keeps("the same one twice", 1, one, one);
         keeps("the same one, once as a difference", 1, one, Checks.byBack(one.length, 3, 3, 131, 0));
         refuses("another one as a difference", NOT_SOUND, one, Checks.byBack(one.length, 3, 3, 3, 1, 0, 0));
@@ -355,6 +359,9 @@ public final class KeepEdgesTest {
         refuses("another kind", Checks.withClient(held), NOT_SOUND, Checks.whole(TREE, Checks.withId(TREE, 3, id)));
         refuses("behind a good one", Checks.withClient(Checks.row(4), held), NOT_SOUND,
             Checks.whole(BLOB, 5), Checks.whole(BLOB, 1, 0, 0));
+        int[] longer = Checks.longerTwin(held);
+        refuses("one that goes on behind it", Checks.withClient(held), NOT_SOUND, Checks.whole(BLOB, longer));
+        refuses("one that ends before it", Checks.withClient(longer), NOT_SOUND, Checks.whole(BLOB, held));
         keeps("the same one", Checks.withClient(held), 0, Checks.whole(BLOB, held));
         Run server = Checks.busy();
         Checks.due("store", Checks.store(server, BLOB, held), id);
@@ -399,7 +406,10 @@ public final class KeepEdgesTest {
         int[] old = Checks.whole(BLOB, 3);
         int[] one = Checks.whole(BLOB, 100);
         int[] two = Checks.whole(BLOB, 101);
-        keeps("one that is held in a full client", holding(24), 0, old, old);
+        for (int i = 0; i < 24; i++) {
+            keeps("one that is held in a full client", holding(24), 0, Checks.whole(BLOB, i));
+        }
+        keeps("one that is held, twice, in a full client", holding(24), 0, old, old);
         keeps("one twice, and one that is held", holding(23), 1, one, old, one);
         refuses("two, and one that is held", holding(23), TOO_MANY, one, old, two);
         refuses("one in a full client", holding(24), TOO_MANY, one);

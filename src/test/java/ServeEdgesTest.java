@@ -24,6 +24,7 @@ public final class ServeEdgesTest {
         threeOrMoreOfTheBase();
         longestOfTheLowestPlace();
         stepsOfPutsTogether();
+        differencesArePacked();
         wholeIfAmongTheShortest();
         latestOfTheShortest();
         earlierOfItsKindInThePack();
@@ -364,6 +365,21 @@ public final class ServeEdgesTest {
             Checks.row(102, 0, 27, 5, 24, 12, 134, 12, 134, 0));
     }
 
+    /** "and the difference from that, packed" */
+    private static void differencesArePacked() {
+        int[] whole = Checks.join(Checks.row(184, 1, 23), MOST);
+        int[] ten = Checks.rising(0, 10);
+        entries("two alike", rows(MOST, Checks.join(ten, Checks.row(77, 77))), whole,
+            Checks.row(103, 0, 27, 6, 24, 12, 138, 0, 2, 77, 77));
+        for (int n = 3; n <= 14; n++) {
+            int[] head = n + 5 < 16 ? Checks.row(96 + n + 5) : Checks.row(224 + n + 5 - 16, 1);
+            entries(n + " alike", rows(MOST, Checks.join(ten, Checks.times(n, 77))), whole,
+                head, Checks.row(0, 27, 4, 24, 10 + n, 138, 0, n, 125 + n, 77));
+        }
+        entries("alike and then a copy", rows(MOST, Checks.join(Checks.times(4, 77), ten)), whole,
+            Checks.row(105, 0, 27, 2, 24, 14, 4, 129, 77, 1, 138, 0));
+    }
+
     /** "the shortest (in bytes, head and all); of several whole, if it is among them" */
     private static void wholeIfAmongTheShortest() {
         int[] whole = Checks.join(Checks.row(184, 1, 23), MOST);
@@ -374,9 +390,12 @@ public final class ServeEdgesTest {
         entries("both are as short", rows(MOST, six), whole, Checks.row(54, 5), six);
         int[] seven = Checks.rising(3, 7);
         entries("the difference is shorter by one", rows(MOST, seven), whole, Checks.row(100, 0, 27, 3, 24, 7, 135, 3));
-        // The head of 16 bytes counts too: whole 2 + 1 + 16, by a copy of 5 and a put of 11 bytes 2 + 2 + 1 + 16.
-        int[] headed = Checks.join(Checks.rising(3, 5), Checks.rising(100, 11));
-        entries("heads and all", rows(MOST, headed), whole, Checks.row(176, 1, 15), headed);
+        // The head counts too: whole 2 + 1 + 16 bytes; as a difference of 14 bytes 1 + 2 + 1 + 14, of 15 as many as whole.
+        int[] headed = Checks.join(Checks.rising(3, 7), Checks.rising(100, 9));
+        entries("shorter by one, heads and all", rows(MOST, headed), whole,
+            Checks.row(110, 0, 27, 13, 24, 16, 135, 3, 9), Checks.rising(100, 9));
+        int[] asShort = Checks.join(Checks.rising(3, 6), Checks.rising(100, 10));
+        entries("as short, heads and all", rows(MOST, asShort), whole, Checks.row(176, 1, 15), asShort);
         int[] alike = Checks.times(20, 9);
         entries("whole in one run", rows(Checks.join(alike, Checks.row(1)), alike),
             Checks.row(181, 1, 145, 9, 0, 1), Checks.row(180, 1, 145, 9));

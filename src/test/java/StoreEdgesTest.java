@@ -312,6 +312,14 @@ public final class StoreEdgesTest {
         Checks.store(y, TREE, Checks.part(5, blob));
         Checks.store(y, BLOB, Checks.withId(BLOB, 4, first));
         refuses("a commit of a blob's ID", y, COMMIT, Checks.commit(tree, 1));
+        int[] shorter = {7};
+        int[] longer = Checks.longerTwin(shorter);
+        Run z = Checks.busy();
+        Checks.store(z, BLOB, shorter);
+        refuses("one that only goes on behind it", z, BLOB, longer);
+        Run w = Checks.busy();
+        Checks.store(w, BLOB, longer);
+        refuses("one that only ends before it", w, BLOB, shorter);
         int[] other = Checks.withId(BLOB, 4, Checks.id(BLOB, 65, 66, 67));
         stores("a blob of an ID of the client", Checks.busy(), BLOB, other);
     }

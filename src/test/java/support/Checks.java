@@ -95,6 +95,22 @@ final class Checks {
         throw new IllegalStateException("no such content");
     }
 
+    /** A content that goes on behind the given one by three bytes, with which a blob has the same ID. */
+    static int[] longerTwin(int... content) {
+        int n = content.length;
+        int id = id(BLOB, content);
+        int[] longer = Arrays.copyOf(content, n + 3);
+        for (int i = 0; i < 1 << 24; i++) {
+            longer[n] = i >> 16;
+            longer[n + 1] = (i >> 8) & 255;
+            longer[n + 2] = i & 255;
+            if (hash(join(row(BLOB, n + 3), longer)) == id) {
+                return longer;
+            }
+        }
+        throw new IllegalStateException("no such content");
+    }
+
     static int[] part(int name, int id) {
         return join(row(name), two(id));
     }
